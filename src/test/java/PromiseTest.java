@@ -396,6 +396,14 @@ public final class PromiseTest {
         lawFault("Moves 1", 0);
         lawFault("move 1", 0);
         lawFault("movess 1", 0);
+        lawFault("goesz", 0);
+        lawFault("agoes", 0);
+        lawFault("goes9", 4);
+        lawFault("digs 0a", 6);
+        lawFault("digs 9:", 6);
+        lawFault("goes{", 4);
+        lawFault("goes`", 4);
+        lawFault("digs 1/", 7);
         lawFault("moves 1001", 6);
         lawFault("moves 01000", -1);
         lawFault("moves 99999999999999999999", 6);
@@ -504,6 +512,10 @@ public final class PromiseTest {
         is("not", test("not 2 = 3"), 1);
         is("not not", test("not not 2 = 3"), 0);
         is("not binds the closest", test("not 1 = 2 and 1 = 2"), 0);
+        is("not within not", test("not (not 1 = 1)"), 1);
+        is("not within not within not", test("not (not (not 1 = 2))"), 1);
+        is("many ands", test("1=1" + " and 1=1".repeat(23)), 1);
+        is("many ors", test("1=2" + " or 1=2".repeat(22) + " or 1=1"), 1);
         is("not of brackets", test("not (1 = 2 and 1 = 2)"), 1);
         is("and", test("1 = 1 and 2 = 2"), 1);
         is("and not", test("1 = 1 and 2 = 3"), 0);
@@ -620,6 +632,12 @@ public final class PromiseTest {
         y.put(2, 1, 8);
         is("by kind, bought", orders(y, "buy 2 if kind 2 = 1 and bought 2 = 0;pass if bought 2 = 1"), 2);
         is("bought", y.at(2, 2), 1);
+        y.put(0, 0, 1);
+        y.put(31, 0, 1);
+        is("by kinds at the ends", orders(y, "buy 0 if kind 0 + kind 31 = 2;buy 31 if bought 0 = 1 and bought 31 = 0"), 2);
+        is("by bought at the ends", orders(y, "pass if bought 0 + bought 31 < 2"), 0);
+        y.put(0, 0, 0);
+        y.put(31, 0, 0);
         is("broken if is not run", orders(y, "pass if 1 / 0 = 1;pass if not 1 / 0 = 1"), 0);
         is("done, stopped", y.stopped(), -1);
         int year = y.count(13);
@@ -852,6 +870,13 @@ public final class PromiseTest {
         }
         is("no seventeenth", y.undo(), -3);
         is("behind two years", y.count(13), 2);
+        y.put(0, 1, 0);
+        orders(y, "pass times 20;pass times 20");
+        for (int i = 41; i > 25; i--) {
+            y.undo();
+            is("each as it was", y.count(13), i);
+        }
+        is("no more", y.undo(), -3);
     }
 
     private static void whereAndIndoors() {
@@ -935,6 +960,9 @@ public final class PromiseTest {
         is("prices even", y.ways(0, 22, 21, 0), 5);
         is("prices even: the lowest", y.ways(0, 22, 21, 1), 1 << 10);
         is("by price first", y.ways(0, 23, 22, 1), 1 << 21);
+        y = walled(0, 31);
+        y.bury(0, 30, 0);
+        is("bits at the ends", y.ways(0, 1, 3, 1), (1L << 31) + 1);
         y = walled(11, 12, 13, 14, 15, 16, 17, 18);
         y.bury(0, 8, 0);
         is("eight", y.ways(0, 18, 10, 1), 0x7f800);
@@ -979,6 +1007,16 @@ public final class PromiseTest {
         is("first row", y.packed(2), 1);
         is("first row", y.packed(1), 0);
         is("not two more ones", y.packed(3), 1);
+        y = under("digs 10 - 9 * [1 - plot] * [2 - plot] / 2 - plot / 2");
+        y.terms(1, 10);
+        for (int i = 0; i < 3; i++) {
+            y.bury(0, i, 0);
+        }
+        is("digs one", y.of(0, 5), 1);
+        is("digs ten", y.of(1, 5), 10);
+        is("digs nine", y.of(2, 5), 9);
+        is("one and nine", y.packed(-1), 2);
+        is("on the first", y.packed(2), 0);
         y = under("digs price");
         y.terms(1, 10);
         int[] greedy = {3, 3, 4, 6, 7, 7};
@@ -1033,12 +1071,20 @@ public final class PromiseTest {
         is("no plot", y.meet(0, 0, 5, 0), -1);
         y.bury(0, 0, 0);
         is("now: the lowest", y.meet(0, 0, 5, 0), 1);
+        is("within no years", y.meet(0, 0, 0, 0), 1);
+        y.bury(0, 31, 0);
+        is("cell 0 is taken", y.meet(1, 0, 0, 0), 30);
+        y.raise(0);
+        is("cell 0", y.meet(0, 0, 0, 0), 0);
+        y = new YardYear();
+        y.bury(0, 0, 0);
         is("the year", y.meet(0, 0, 5, 1), 0);
         y.put(1, 0, 1);
         is("on the other side", y.meet(0, 0, 5, 0), 31);
         y.put(31, 0, 2);
         is("not on a path", y.meet(0, 0, 5, 0), 30);
         is("its year", y.meet(0, 0, 5, 1), 1);
+        is("within just that", y.meet(0, 0, 1, 0), 30);
         is("not within none", y.meet(0, 0, 0, 0), -1);
         is("no family", y.meet(0, 6, 5, 0), -1);
         is("no years", y.meet(0, 0, 61, 0), -1);
@@ -1136,10 +1182,20 @@ public final class PromiseTest {
         is("two come together", y.spade(1, 0), 12);
         y.find(0, 10, 1);
         is("one hidden: the lowest", y.spade(0, 0), 0);
+        is("asked again", y.spade(0, 1), 1);
+        is("and again", y.spade(0, 0), 0);
         is("one is left", y.spade(0, 1), 1);
         y.find(0, 10, 0);
         is("none hidden", y.spade(0, 0), -1);
         is("none hidden", y.spade(0, 1), -1);
+        y = under("moves 0;moves 1 if family = 0 and small = 0 and plot = 0");
+        for (int c = 0; c < 32; c++) {
+            y.put(c, 0, c == 0 || c == 6 || c == 7 ? 0 : 2);
+        }
+        is("cell 0 counts", y.spade(0, 0), 0);
+        is("now", y.spade(0, 1), 2);
+        is("of family 0, not small", y.spade(3, 0), 3);
+        is("as often as asked", y.spade(3, 1), 2);
         y = new YardYear();
         for (int i = 0; i < 10; i++) {
             y.bury(0, i, 0);
@@ -1161,6 +1217,7 @@ public final class PromiseTest {
         is("no years", y.compare(0, 0), -1);
         is("too many", y.compare(0, 61), -1);
         is("sixty", y.compare(0, 60), 360);
+        is("one", y.compare(0, 1), 6);
         is("in force as ahead", y.of(0, 4), 3);
         is("where as ahead", y.of(0, 0), 0);
     }
@@ -1186,6 +1243,14 @@ public final class PromiseTest {
         is("halves", y.arrives(0, 5, 12), all / 4096 * 3302);
         y.terms(2, 2);
         is("each part is cut", y.arrives(0, 1, 14), all - 165);
+        y.terms(2, 0);
+        is("in forty", y.arrives(0, 8, 40), all);
+        y.force(law(y, "moves 0;moves 1 if years = 39"));
+        is("in the fortieth", y.arrives(0, 1, 40), all);
+        is("in the fortieth, again", y.arrives(0, 1, 40), all);
+        y.terms(2, 1);
+        is("seldom", y.arrives(0, 1, 40) > 14_000_000_000L ? 1 : 0, 1);
+        y.terms(2, 2);
         is("no plot", y.arrives(1, 0, 1), -1);
         is("no cell", y.arrives(0, 32, 1), -1);
         is("too many years", y.arrives(0, 0, 41), -1);
@@ -1255,7 +1320,18 @@ public final class PromiseTest {
         is("all barred", y.centuries(3, 100), 1);
         is("frost alone", y.drawn(0, 0), 7);
         is("but years", y.drawn(0, 2), 100);
+        y.force(law(y, "moves small"));
+        y.bury(0, 20, 0);
+        y.terms(0, 900);
         y.terms(2, 0);
+        is("ten", y.centuries(8, 99), 10);
+        int early = y.drawn(2, 0);
+        is("also by that law", y.centuries(8, 98), 10);
+        is("not small: it stays", y.drawn(2, 0), early);
+        y.undo();
+        y.raise(1);
+        y.terms(0, 0);
+        y.force(0);
         y.centuries(3, 100);
         is("no frost", y.drawn(0, 0), (7 + 100) % 32);
     }
@@ -1316,7 +1392,7 @@ public final class PromiseTest {
         y.buy(3);
         y.bury(2, 1, 1);
         y.find(1, 2, 0);
-        law(y, "moves 2");
+        law(y, "moves 2;moves 8 if years = 500;moves 9 if years = 501;goes;bars if cell = 20;digs [year + 2] * 7 % 100");
         y.force(0);
         y.terms(3, 4);
         y.pass();
@@ -1330,7 +1406,9 @@ public final class PromiseTest {
         y.put(8, 0, 0);
         y.bury(0, 9, 0);
         y.forget();
-        law(y, "moves 5");
+        y.find(4, 4, 1);
+        y.find(4, 5, 1);
+        law(y, "moves 5;moves 6 if years > 500;moves 7 if years > 501;digs 3 + 3 * 2");
         y.force(1);
         y.terms(0, 44);
         y.terms(1, 4);
@@ -1343,7 +1421,7 @@ public final class PromiseTest {
         y.row();
         orders(y, "raise 9");
         y.pass();
-        tape(y, "goes;moves 7");
+        tape(y, "goes;moves 7 % 8 % 9;digs 4 % 5 - 1 - 1 / 1 / 1 - 1 - 1 - 1");
         int refused = y.count(9);
         is("back", y.back(1), 0);
         is("bought", y.at(3, 2), 1);
@@ -1357,12 +1435,18 @@ public final class PromiseTest {
         is("laws", y.count(4), 1);
         is("in force", y.count(12), 0);
         is("by law", y.of(0, 4), 2);
+        is("by all of it", y.goes(0, 8), 1);
+        is("to its end", y.of(0, 5), 21);
+        is("barred", y.barred(1, 20), 1);
+        is("barred there alone", y.barred(1, 21), 0);
+        is("what was found", y.hidden(-1), 29);
+        is("where it was", y.hidden(0), 1);
         is("year", y.count(13), 1);
         is("light", y.count(14), 20);
         is("frost", y.count(15), 2);
         is("mood", y.count(16), 4);
         is("nothing to undo", y.count(5), 0);
-        is("the tape stays", y.count(6), 12);
+        is("the tape stays", y.count(6), 59);
         is("fault stays", y.fault(), -1);
         is("stopped stays", y.stopped(), 0);
         is("moles stay", y.moles(), 2);
@@ -1375,6 +1459,7 @@ public final class PromiseTest {
         is("back to the other", y.back(0), 0);
         is("its laws", y.count(4), 2);
         is("its law", y.of(0, 4), 5);
+        is("to its end", y.of(0, 5), 9);
         is("its year", y.count(13), 44);
         is("its kind", y.at(3, 0), 2);
         is("images stay", y.back(1), 0);
@@ -1395,7 +1480,12 @@ public final class PromiseTest {
 
     private static void counts() {
         promise = 40;
-        YardYear y = walled(3, 8, 12);
+        YardYear y = walled(0, 31);
+        is("walls at both ends", y.count(1), 2);
+        y.buy(0);
+        y.buy(31);
+        is("both bought", y.count(2), 2);
+        y = walled(3, 8, 12);
         y.buy(8);
         y.bury(0, 0, 0);
         y.bury(0, 1, 0);
