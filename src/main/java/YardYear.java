@@ -616,7 +616,8 @@ public final class YardYear {
             if (what == KIND) {
                 return value == GRASS || value == PATH || plotIn(where) == NONE;
             }
-            return what != BOUGHT || kind[where] == WALL;
+            // Whatever is no wall isn't BOUGHT, and may be told so.
+            return what != BOUGHT || value == 0 || kind[where] == WALL;
         }
 
         void write(int where, int what, int value) {

@@ -459,7 +459,7 @@ final class Model {
             Cell c = w.cells[cell];
             int was = at(cell, what);
             require(!(what == 0 && (value == 1 || value == 3) && w.plotAt(cell) >= 0), -3);
-            require(!(what == 2 && c.kind != 1), -3);
+            require(!(what == 2 && value == 1 && c.kind != 1), -3);
             forgetUndos();
             if (what == 0) {
                 c.kind = value;

@@ -178,7 +178,20 @@ public final class PromiseTest {
             is("bad number", y.put(b[0], b[1], b[2]), -1);
             is("status", y.status(), -1);
         }
-        is("bought, no wall", y.put(3, 2, 1), -3);
+        for (int kind = 0; kind < 4; kind++) {
+            y.put(3, 0, kind);
+            y.pass();
+            if (kind != 1) {
+                is("bought, no wall", y.put(3, 2, 1), -3);
+                is("status", y.status(), -3);
+                is("nothing was put", y.count(5), 1);
+            }
+            is("not bought", y.put(3, 2, 0), 0);
+            is("status", y.status(), 0);
+            is("is not bought", y.at(3, 2), 0);
+            is("what was ahead can't be undone", y.count(5), 0);
+        }
+        y.put(3, 0, 0);
         y.bury(0, 5, 0);
         is("wall where a plot lies", y.put(5, 0, 1), -3);
         is("water where a plot lies", y.put(5, 0, 3), -3);
