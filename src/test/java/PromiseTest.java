@@ -1,70 +1,7 @@
-import java.nio.ByteBuffer;
 import java.util.Arrays;
 
 /** Each promise by itself: ordinary inputs, the edges that the document names, wrong inputs. */
-public final class PromiseTest {
-    private static int wrong;
-    private static int asked;
-    private static int promise;
-
-    private static void is(String what, long got, long want) {
-        asked++;
-        if (got != want) {
-            wrong++;
-            System.out.println("promise " + promise + ": " + what + " answered " + got + ", due is " + want);
-        }
-    }
-
-    private static int tape(YardYear y, byte[] bytes) {
-        y.end(0);
-        for (int i = 0; i < bytes.length; i += 20) {
-            ByteBuffer b = ByteBuffer.wrap(Arrays.copyOfRange(bytes, i, i + 20));
-            y.feed(b.getInt(), b.getInt(), b.getInt(), b.getInt(), b.getInt());
-        }
-        return y.end(bytes.length);
-    }
-
-    private static void tape(YardYear y, String text) {
-        byte[] bytes = new byte[text.length()];
-        for (int i = 0; i < bytes.length; i++) {
-            bytes[i] = (byte) text.charAt(i);
-        }
-        tape(y, bytes);
-    }
-
-    private static void tape(YardYear y, int... bytes) {
-        byte[] made = new byte[bytes.length];
-        for (int i = 0; i < made.length; i++) {
-            made[i] = (byte) bytes[i];
-        }
-        tape(y, made);
-    }
-
-    private static int law(YardYear y, String text) {
-        tape(y, text);
-        return y.law();
-    }
-
-    private static int orders(YardYear y, String text) {
-        tape(y, text);
-        return y.orders();
-    }
-
-    /** A new yard under one LAW. */
-    private static YardYear under(String law) {
-        YardYear y = new YardYear();
-        y.force(law(y, law));
-        return y;
-    }
-
-    private static YardYear walled(int... cells) {
-        YardYear y = new YardYear();
-        for (int cell : cells) {
-            y.put(cell, 0, 1);
-        }
-        return y;
-    }
-
+public final class PromiseTest extends YardTest {
     private static void lawFault(String text, int place) {
         YardYear y = new YardYear();
         is("law of <" + text + ">", law(y, text), place < 0 ? 0 : -6);
@@ -128,14 +65,11 @@ public final class PromiseTest {
         images();
         counts();
         statuses();
-        System.out.println("PromiseTest: " + asked + " asked, " + wrong + " wrong");
-        if (wrong > 0) {
-            System.exit(1);
-        }
+        report("PromiseTest");
     }
 
     private static void newObject() {
-        promise = 1;
+        promise(1);
         YardYear y = new YardYear();
         is("NONE", YardYear.NONE, -1);
         for (int c = 0; c < 32; c++) {
@@ -157,7 +91,7 @@ public final class PromiseTest {
     }
 
     private static void cells() {
-        promise = 2;
+        promise(2);
         YardYear y = new YardYear();
         is("kind", y.put(31, 0, 3), 0);
         is("kind again", y.put(31, 0, 1), 3);
@@ -199,7 +133,7 @@ public final class PromiseTest {
         is("grass where a plot lies", y.put(5, 0, 0), 2);
         is("price where a plot lies", y.put(5, 1, 7), 0);
         is("bad before impossible", y.put(5, 0, 9), -1);
-        promise = 3;
+        promise(3);
         is("kind", y.at(5, 0), 0);
         is("price", y.at(5, 1), 7);
         is("wall", y.at(31, 0), 1);
@@ -214,7 +148,7 @@ public final class PromiseTest {
     }
 
     private static void plots() {
-        promise = 4;
+        promise(4);
         YardYear y = new YardYear();
         y.bury(5, 30, 1);
         y.bury(2, 9, 0);
@@ -244,7 +178,7 @@ public final class PromiseTest {
     }
 
     private static void goesAndBarred() {
-        promise = 5;
+        promise(5);
         YardYear y = new YardYear();
         y.bury(0, 0, 0);
         for (int c = 1; c < 4; c++) {
@@ -270,7 +204,7 @@ public final class PromiseTest {
         is("a broken one", y.goes(0, 5), 0);
         y.force(law(y, "goes"));
         is("without if", y.goes(0, 3), 1);
-        promise = 6;
+        promise(6);
         y = new YardYear();
         is("by no law", y.barred(0, 0), 0);
         y.force(law(y, "bars if family = 2 and cell < 9;bars if plot + small + years + 2 = 0 and cell = 30"));
@@ -285,7 +219,7 @@ public final class PromiseTest {
     }
 
     private static void termsAndTape() {
-        promise = 7;
+        promise(7);
         YardYear y = new YardYear();
         int[][] ends = {{0, 0, 999, 0}, {1, 1, 99, 20}, {2, 0, 10, 2}, {3, 0, 9, 0}};
         for (int[] e : ends) {
@@ -298,7 +232,7 @@ public final class PromiseTest {
         }
         is("no term", y.terms(4, 1), -1);
         is("no term below", y.terms(-1, 1), -1);
-        promise = 8;
+        promise(8);
         y = new YardYear();
         for (int i = 1; i <= 20; i++) {
             is("bytes", y.feed(i, 0, 0, 0, 0), 20 * i);
@@ -324,7 +258,7 @@ public final class PromiseTest {
         y.end(4);
         is("bytes of 255", y.row(), 0);
         is("two moles", y.moles(), 2);
-        promise = 9;
+        promise(9);
         y.feed(1, 2, 3, 4, 5);
         is("more than there is", y.end(21), -1);
         is("below", y.end(-1), -1);
@@ -337,7 +271,7 @@ public final class PromiseTest {
     }
 
     private static void rows() {
-        promise = 10;
+        promise(10);
         YardYear y = new YardYear();
         is("empty", y.row(), -6);
         is("status", y.status(), -6);
@@ -361,7 +295,7 @@ public final class PromiseTest {
         is("no kind 4", y.at(2, 0), 3);
         is("no price 100", y.at(3, 0), 2);
         is("the end within", y.at(4, 0), 0);
-        promise = 11;
+        promise(11);
         is("moles", y.moles(), 4);
         is("refused", y.row(), -6);
         is("as ahead", y.moles(), 4);
@@ -370,14 +304,14 @@ public final class PromiseTest {
         is("two", y.moles(), 2);
         tape(y, 2, 3);
         y.row();
-        promise = 10;
+        promise(10);
         is("no wall, not bought", y.at(0, 2), 0);
         int[] all = new int[70];
         Arrays.fill(all, 2);
         tape(y, all);
         is("all but beyond the ring", y.row(), 32);
         is("the last", y.at(31, 0), 2);
-        promise = 11;
+        promise(11);
         is("three beyond", y.moles(), 3);
         y.bury(0, 9, 0);
         tape(y, 9);
@@ -386,7 +320,7 @@ public final class PromiseTest {
     }
 
     private static void lawTexts() {
-        promise = 12;
+        promise(12);
         YardYear y = new YardYear();
         for (int i = 0; i < 6; i++) {
             is("number", law(y, "moves " + i), i);
@@ -397,7 +331,7 @@ public final class PromiseTest {
         is("tape is empty then", y.count(6), 0);
         is("was not read", y.fault(), -1);
         is("six", y.count(4), 6);
-        promise = 14;
+        promise(14);
         lawFault("moves 1", -1);
         lawFault("  moves   1  ", -1);
         lawFault("moves1;digs[2];goes;bars", -1);
@@ -474,7 +408,7 @@ public final class PromiseTest {
         is("none then", y.fault(), -1);
         orders(y, "pas");
         is("by orders", y.fault(), 0);
-        promise = 12;
+        promise(12);
         is("text that is refused is no law", y.count(4), 1);
         is("the same text again", law(y, "goes"), 1);
         tape(y, "goes x");
@@ -483,7 +417,7 @@ public final class PromiseTest {
     }
 
     private static void sums() {
-        promise = 4;
+        promise(4);
         is("number", sum("12"), 12);
         is("plot", sum("plot + 1"), 1);
         is("cell", sum("cell"), 10);
@@ -515,7 +449,7 @@ public final class PromiseTest {
     }
 
     private static void tests() {
-        promise = 4;
+        promise(4);
         is("less", test("1 < 2"), 1);
         is("not less", test("2 < 2"), 0);
         is("more", test("3 > 2"), 1);
@@ -553,7 +487,7 @@ public final class PromiseTest {
     }
 
     private static void lawsInForce() {
-        promise = 16;
+        promise(16);
         YardYear y = new YardYear();
         is("no such law", y.force(0), -2);
         is("none for none", y.force(-1), -1);
@@ -571,7 +505,7 @@ public final class PromiseTest {
         is("is in force", y.of(0, 4), 2);
         is("which was", y.force(-1), 0);
         is("none is in force", y.of(0, 4), 1);
-        promise = 13;
+        promise(13);
         y = under("bars if family = 1 or kind = 2;goes if kind = 3;moves 2 - years");
         y.put(3, 0, 3);
         y.put(4, 0, 3);
@@ -583,7 +517,7 @@ public final class PromiseTest {
     }
 
     private static void orderTexts() {
-        promise = 14;
+        promise(14);
         orderFault("pass", -1);
         orderFault("pass times 20 if 1=1;pass;pass times 1", -1);
         orderFault("buy kind 31 if 1 = 2", -1);
@@ -619,7 +553,7 @@ public final class PromiseTest {
         String twelve = "pass times 1;".repeat(12);
         orderFault(twelve.substring(0, twelve.length() - 1), -1);
         orderFault(twelve + "pass", twelve.length());
-        promise = 13;
+        promise(13);
         YardYear y = new YardYear();
         is("blanks alone", orders(y, "    "), -6);
         is("status", y.status(), -6);
@@ -628,7 +562,7 @@ public final class PromiseTest {
     }
 
     private static void orderRuns() {
-        promise = 13;
+        promise(13);
         YardYear y = new YardYear();
         is("runs", orders(y, "bury 3 at 4 times 1;bury 2 at 4 + done * 6 times 3;pass times 2 if plots = 4"), 6);
         is("plots", y.count(0), 4);
@@ -655,9 +589,9 @@ public final class PromiseTest {
         is("done, stopped", y.stopped(), -1);
         int year = y.count(13);
         is("broken sum", orders(y, "pass;raise 1 / 0"), -3);
-        promise = 15;
+        promise(15);
         is("stopped", y.stopped(), 1);
-        promise = 13;
+        promise(13);
         is("as it was", y.count(13), year);
         is("no such plot", orders(y, "raise 9"), -3);
         is("no such family", orders(y, "bury 6 at 0"), -3);
@@ -670,7 +604,7 @@ public final class PromiseTest {
         is("refused by -3", y.count(9), 8);
         is("full", orders(y, "bury 1 at 3 + plots times 7"), 7);
         is("no room", orders(y, "pass;bury 1 at 19"), -5);
-        promise = 15;
+        promise(15);
         is("stopped", y.stopped(), 1);
         is("refused by -6", orders(y, "pas"), -6);
         is("none then", y.stopped(), -1);
@@ -678,7 +612,7 @@ public final class PromiseTest {
         is("stopped", y.stopped(), 0);
         is("done", orders(y, "pass if 1 = 2"), 0);
         is("none then", y.stopped(), -1);
-        promise = 13;
+        promise(13);
         wholeOrNothing();
     }
 
@@ -708,7 +642,7 @@ public final class PromiseTest {
     }
 
     private static void acts() {
-        promise = 17;
+        promise(17);
         YardYear y = new YardYear();
         for (int i = 0; i < 10; i++) {
             is("number", y.bury(i % 6, 3 * i, i % 2), i);
@@ -733,7 +667,7 @@ public final class PromiseTest {
         y.force(law(y, "bars if family = 4"));
         is("barred", y.bury(4, 9, 0), -3);
         is("not barred", y.bury(3, 9, 0), 1);
-        promise = 18;
+        promise(18);
         y = walled(0, 4);
         y.put(4, 1, 55);
         y.put(9, 1, 3);
@@ -744,7 +678,7 @@ public final class PromiseTest {
         is("no cell", y.buy(32), -1);
         is("no cell below", y.buy(-1), -1);
         is("bought", y.at(4, 2), 1);
-        promise = 19;
+        promise(19);
         y = new YardYear();
         is("none there", y.raise(0), -2);
         y.bury(0, 10, 0);
@@ -768,7 +702,7 @@ public final class PromiseTest {
     }
 
     private static void years() {
-        promise = 20;
+        promise(20);
         YardYear y = under("moves family");
         y.put(2, 0, 3);
         y.bury(3, 30, 0);
@@ -782,21 +716,21 @@ public final class PromiseTest {
         is("up to that", y.of(3, 0), 7);
         is("years", y.of(2, 3), 1);
         is("year", y.count(13), 1);
-        promise = 21;
+        promise(21);
         is("blocked by a plot", y.blocked(), 1);
         y.put(3, 0, 1);
-        promise = 20;
+        promise(20);
         is("moved", y.pass(), 1);
-        promise = 21;
+        promise(21);
         is("by water and by plots", y.blocked(), 3);
         is("ahead", y.of(1, 0), 0);
         y.terms(0, 999);
-        promise = 20;
+        promise(20);
         is("at 999", y.pass(), -3);
         is("status", y.status(), -3);
-        promise = 21;
+        promise(21);
         is("as in the latest that was", y.blocked(), 3);
-        promise = 20;
+        promise(20);
         y.terms(0, 998);
         is("to 999", y.pass(), 0);
         is("year", y.count(13), 999);
@@ -813,7 +747,7 @@ public final class PromiseTest {
             orders(y, "pass times 20");
         }
         is("years stop", y.of(0, 3), 999);
-        promise = 21;
+        promise(21);
         y = new YardYear();
         y.bury(0, 0, 0);
         y.bury(0, 1, 0);
@@ -827,7 +761,7 @@ public final class PromiseTest {
     }
 
     private static void undoing() {
-        promise = 22;
+        promise(22);
         YardYear y = walled(9);
         is("none", y.undo(), -3);
         is("status", y.status(), -3);
@@ -893,7 +827,7 @@ public final class PromiseTest {
     }
 
     private static void whereAndIndoors() {
-        promise = 23;
+        promise(23);
         YardYear y = under("moves years + 1 if year < 3;moves 2 if year > 999;moves 0 if year = 1000");
         y.bury(0, 30, 0);
         int[] want = {30, 31, 1, 4, 5, 6};
@@ -911,7 +845,7 @@ public final class PromiseTest {
         for (int n = 0; n < late.length; n++) {
             is("beyond 999, " + n, y.where(0, n), late[n]);
         }
-        promise = 24;
+        promise(24);
         y = walled(5);
         is("no plot", y.indoors(), -1);
         y.bury(0, 2, 0);
@@ -936,7 +870,7 @@ public final class PromiseTest {
     }
 
     private static void ways() {
-        promise = 25;
+        promise(25);
         YardYear y = walled(3, 5, 31);
         y.put(3, 1, 7);
         y.put(5, 1, 9);
@@ -986,7 +920,7 @@ public final class PromiseTest {
     }
 
     private static void packing() {
-        promise = 26;
+        promise(26);
         YardYear y = under("digs price");
         is("no plots", y.packed(-1), 0);
         is("no plot", y.packed(0), -1);
@@ -1045,7 +979,7 @@ public final class PromiseTest {
     }
 
     private static void meetings() {
-        promise = 27;
+        promise(27);
         YardYear y = under("moves 2 - plot if plot < 3;moves 0 if plot > 2");
         y.bury(0, 0, 0);
         y.bury(0, 4, 0);
@@ -1079,7 +1013,7 @@ public final class PromiseTest {
     }
 
     private static void meeting() {
-        promise = 28;
+        promise(28);
         YardYear y = new YardYear();
         is("no plot", y.meet(0, 0, 5, 0), -1);
         y.bury(0, 0, 0);
@@ -1122,7 +1056,7 @@ public final class PromiseTest {
     }
 
     private static void findings() {
-        promise = 29;
+        promise(29);
         YardYear y = new YardYear();
         int[][] bad = {{-1, 0, 0}, {10, 0, 0}, {0, -1, 0}, {0, 32, 0}, {0, 0, -1}, {0, 0, 2}};
         for (int[] b : bad) {
@@ -1134,11 +1068,11 @@ public final class PromiseTest {
         is("no room", y.find(0, 0, 0), -5);
         is("bad ahead of no room", y.find(0, 0, 2), -1);
         is("count", y.count(3), 8);
-        promise = 30;
+        promise(30);
         is("how much", y.forget(), 8);
         is("nothing", y.forget(), 0);
         is("count", y.count(3), 0);
-        promise = 31;
+        promise(31);
         y.bury(0, 4, 0);
         y.put(9, 0, 2);
         y.put(10, 0, 1);
@@ -1173,7 +1107,7 @@ public final class PromiseTest {
     }
 
     private static void spades() {
-        promise = 32;
+        promise(32);
         YardYear y = new YardYear();
         y.bury(0, 4, 0);
         for (int c = 0; c < 32; c++) {
@@ -1217,7 +1151,7 @@ public final class PromiseTest {
     }
 
     private static void compares() {
-        promise = 33;
+        promise(33);
         YardYear y = under("moves 3");
         law(y, "moves 0");
         y.bury(0, 0, 0);
@@ -1236,7 +1170,7 @@ public final class PromiseTest {
     }
 
     private static void arrivals() {
-        promise = 34;
+        promise(34);
         YardYear y = new YardYear();
         long all = 1_000_000_000_000L;
         y.bury(0, 0, 0);
@@ -1274,7 +1208,7 @@ public final class PromiseTest {
     }
 
     private static void rounds() {
-        promise = 35;
+        promise(35);
         YardYear y = new YardYear();
         y.bury(0, 5, 0);
         is("one by one", y.round(0), 32);
@@ -1296,7 +1230,7 @@ public final class PromiseTest {
     }
 
     private static void centuries() {
-        promise = 36;
+        promise(36);
         YardYear y = new YardYear();
         is("no seed", y.centuries(-1, 5), -1);
         is("no such seed", y.centuries(1_000_001, 5), -1);
@@ -1304,7 +1238,7 @@ public final class PromiseTest {
         is("too many", y.centuries(0, 101), -1);
         is("status", y.status(), -1);
         is("one year", y.centuries(5, 1), 1);
-        promise = 37;
+        promise(37);
         is("its cell", y.drawn(0, 0), 28);
         is("its family", y.drawn(0, 1), 0);
         is("its years", y.drawn(0, 2), 0);
@@ -1315,7 +1249,7 @@ public final class PromiseTest {
         is("on paper", y.count(0), 0);
         y.centuries(5, 200);
         is("a refused one is not the latest", y.drawn(0, 0), 28);
-        promise = 36;
+        promise(36);
         drawnByHand(0, 100);
         drawnByHand(1_000_000, 37);
         drawnByHand(4711, 60);
@@ -1391,16 +1325,16 @@ public final class PromiseTest {
     }
 
     private static void images() {
-        promise = 38;
+        promise(38);
         YardYear y = walled(3, 8);
         is("no image", y.image(-1), -1);
         is("no image", y.image(2), -1);
-        promise = 39;
+        promise(39);
         is("no image", y.back(2), -1);
         is("no image below", y.back(-1), -1);
         is("not kept", y.back(0), -2);
         is("status", y.status(), -2);
-        promise = 38;
+        promise(38);
         y.put(3, 1, 9);
         y.buy(3);
         y.bury(2, 1, 1);
@@ -1411,7 +1345,7 @@ public final class PromiseTest {
         y.pass();
         is("kept", y.image(1), 0);
         is("to be undone as ahead", y.count(5), 1);
-        promise = 39;
+        promise(39);
         is("the other is not", y.back(0), -2);
         y.undo();
         y.put(3, 0, 2);
@@ -1492,7 +1426,7 @@ public final class PromiseTest {
     }
 
     private static void counts() {
-        promise = 40;
+        promise(40);
         YardYear y = walled(0, 31);
         is("walls at both ends", y.count(1), 2);
         y.buy(0);
@@ -1536,7 +1470,7 @@ public final class PromiseTest {
     }
 
     private static void statuses() {
-        promise = 41;
+        promise(41);
         YardYear y = new YardYear();
         is("ahead of any", y.status(), 0);
         y.put(99, 0, 0);
